@@ -26,6 +26,7 @@ public final class LineCasterAgainstModel {
         {1, 1, 0, 20, 0, 0, 0, 0, 9, 1, 1, 2, 1, 20, 20, 30, 2, 9, 30, 6, 1, 2, 5, 0, 0, 0, 0, 0, 0, 0, 0, 0, 0, 0, 0},
     };
     private static final int TO_THE_LAST_TICK = 4;
+    private static final int OFTEN_RIGHT = 5;
     private static final int[] ANSWERS_SEEN = new int[35];
     private static int kind;
     private static long seed;
@@ -53,9 +54,10 @@ public final class LineCasterAgainstModel {
         int[] weights = WEIGHTS[kind];
         boolean eager = run / WEIGHTS.length % 2 == 0;
         StringBuilder told = new StringBuilder();
+        long[][] bar = kind == OFTEN_RIGHT && !eager ? rightBar() : new long[0][];
         for (int c = 0; c < CALLS; c++) {
-            int call = pick(weights);
-            long[] a = arguments(call, m, eager);
+            int call = c < bar.length ? c % 2 : pick(weights);
+            long[] a = c < bar.length ? bar[c] : arguments(call, m, eager);
             long want = ask(m, call, a);
             long got;
             try {
@@ -137,6 +139,22 @@ public final class LineCasterAgainstModel {
             case 34: return copying(m, sheet, held);
             default: throw new IllegalStateException();
         }
+    }
+
+    /** Calls of letter and place in turn for a bar that is right: sets with fewer teeth stand ahead. */
+    private static long[][] rightBar() {
+        List<Integer> sets = new ArrayList<>();
+        while (sets.size() < 12) {
+            int teeth = from(1, 127);
+            if (!sets.contains(teeth)) sets.add(teeth);
+        }
+        sets.sort((s, t) -> Integer.bitCount(s) - Integer.bitCount(t));
+        long[][] calls = new long[24][];
+        for (int k = 0; k < 12; k++) {
+            calls[2 * k] = row(k, 1, sets.get(k));
+            calls[2 * k + 1] = row(k, 0, 127 - sets.get(k));
+        }
+        return calls;
     }
 
     private static long[] row(long... a) {

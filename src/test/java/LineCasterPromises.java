@@ -33,7 +33,7 @@ public final class LineCasterPromises {
         promise = 18; line();
         promise = 19; state();
         promise = 20; thick();
-        promise = 21; cast(); castGoesHome(); castSettlesWhere(); castJams(); castTies(); castFull();
+        promise = 21; cast(); castGoesHome(); castSettlesWhere(); castJams(); castTies(); castAll(); castFull();
         promise = 22; clear();
         promise = 23; slug();
         promise = 24; count();
@@ -280,6 +280,9 @@ public final class LineCasterPromises {
         x.letter(3, 1, 127);
         for (int i = 0; i < 12; i++) due("two alike: order(" + i + ")", NONE, x.order(i));
         due("BAD ahead of NONE", BAD, x.order(12));
+        LineCaster y = new LineCaster();
+        y.letter(0, 1, 2);
+        for (int i = 0; i < 12; i++) due("a and b alike: order(" + i + ")", NONE, y.order(i));
     }
 
     private static void dueOrder(LineCaster x, int... letters) {
@@ -749,6 +752,24 @@ public final class LineCasterPromises {
         dueChannel(y, 0, 0);
     }
 
+    private static void castAll() {
+        LineCaster x = new LineCaster();
+        for (int m = 0; m < 60; m++) x.mould(m % 12, 0);
+        x.set(3, 200);
+        for (int m = 0; m < 60; m++) {
+            x.key(m % 12);
+            if (m % 20 == 19) {
+                x.ticks(20);
+                x.set(2, 200);
+                due("cast()", m / 20, x.cast());
+            }
+        }
+        due("all on the bar", 60, x.count(4));
+        x.ticks(300);
+        due("all are home", 60, x.count(1));
+        for (int p = 0; p < 12; p++) due("five each", 5, x.channel(p, -1));
+    }
+
     private static void castFull() {
         LineCaster x = new LineCaster();
         x.set(2, 10);
@@ -1012,6 +1033,9 @@ public final class LineCasterPromises {
         due("a fault at the end", -79, x.plays(30));
         due("now", 15, x.count(8));
         due("60 fit again", 1, write(x, "a"));
+        LineCaster y = withMoulds(0, 1);
+        due("a full tape", 60, write(y, "ab                                                          "));
+        due("14 of 60", 14, y.plays(1));
     }
 
     private static void playsStops() {
@@ -1099,6 +1123,17 @@ public final class LineCasterPromises {
         LineCaster first = new LineCaster();
         for (int p = 1; p < 12; p++) first.place(p, 0, 127);
         due("others are held at home", NONE, first.better(0));
+        due("the least teeth", 1, withBar(96, 6, 28, 76, 92, 39, 83, 23, 107, 122, 124, 123).better(0));
+        due("all teeth", 127, withBar(98, 42, 41, 73, 28, 60, 47, 122, 117, 115, 93, 126).better(11));
+    }
+
+    private static LineCaster withBar(int... teeth) {
+        LineCaster x = new LineCaster();
+        for (int k = 0; k < 12; k++) {
+            x.letter(k, 1, teeth[k]);
+            x.place(k, 0, 127 - teeth[k]);
+        }
+        return x;
     }
 
     // ---- 4 sheets
