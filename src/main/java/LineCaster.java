@@ -273,7 +273,7 @@ public final class LineCaster {
         if (found != TIGHT) {
             return NOT;
         }
-        if (slugs.count >= MOST_SLUGS) {
+        if (slugs.isFull()) {
             return FULL;
         }
         castSlug();
@@ -832,8 +832,10 @@ public final class LineCaster {
             return true;
         }
 
-        // The caller has seen that the channel is not dry.
         int takeFirst(int place) {
+            if (held[place] == 0) {
+                return NONE;
+            }
             int[] row = channels[place];
             int mould = row[0];
             held[place]--;
@@ -866,8 +868,10 @@ public final class LineCaster {
             return come + falling >= LINE_HOLDS;
         }
 
-        // The caller has seen that the line is not full.
         void letGo(int thing, int due) {
+            if (isFull()) {
+                return;
+            }
             fallingThings[falling] = thing;
             dueTicks[falling] = due;
             falling++;
@@ -879,7 +883,7 @@ public final class LineCaster {
         void takeDue(int tick) {
             int left = 0;
             for (int f = 0; f < falling; f++) {
-                if (dueTicks[f] == tick) {
+                if (dueTicks[f] == tick && come < LINE_HOLDS) {
                     things[come] = fallingThings[f];
                     come++;
                 } else {
@@ -916,8 +920,10 @@ public final class LineCaster {
         int hanging = 0;
         int jammed = 0;
 
-        // A mould hangs here once at most, so there is room for all.
         void hang(int mould, int target, int due) {
+            if (hanging >= MOST_MOULDS) {
+                return;
+            }
             hangingMoulds[hanging] = mould;
             targets[hanging] = target;
             dueTicks[hanging] = due;
@@ -953,15 +959,22 @@ public final class LineCaster {
         final int[] lengths = new int[MOST_SLUGS];
         int count = 0;
 
-        // The caller has seen that there is room for one more.
+        boolean isFull() {
+            return count >= MOST_SLUGS;
+        }
+
         void begin() {
-            count++;
+            if (!isFull()) {
+                count++;
+            }
         }
 
         void append(int sign) {
             int slug = count - 1;
-            signs[slug][lengths[slug]] = (byte) sign;
-            lengths[slug]++;
+            if (slug >= 0 && lengths[slug] < LINE_HOLDS) {
+                signs[slug][lengths[slug]] = (byte) sign;
+                lengths[slug]++;
+            }
         }
     }
 
@@ -970,10 +983,11 @@ public final class LineCaster {
         final int[] signs = new int[TAPE_HOLDS];
         int length = 0;
 
-        // The caller has seen that there is room for one more.
         void append(int sign) {
-            signs[length] = sign;
-            length++;
+            if (length < TAPE_HOLDS) {
+                signs[length] = sign;
+                length++;
+            }
         }
 
         int firstUnplayable() {
