@@ -16,9 +16,10 @@ public final class LineCasterFace {
         "plays(int)", "risk(int)", "better(int)", "sheet(int,int,int)", "drop(int)", "item(int,int,int,int)",
         "copy(int,int,int,int,int)"};
     private static final String[] CONSTANTS = {"BAD", "NOT", "FULL", "NONE", "NULL", "CAST", "INDEX", "SIZE"};
+    private static final int[] VALUES = {-1, -2, -3, -4, -11, -12, -13, -14};
     private static int wrong = 0;
 
-    public static void main(String[] args) {
+    public static void main(String[] args) throws ReflectiveOperationException {
         int modifiers = LineCaster.class.getModifiers();
         check(Modifier.isPublic(modifiers) && Modifier.isFinal(modifiers), "the class is public and final");
         Constructor<?>[] made = LineCaster.class.getDeclaredConstructors();
@@ -26,6 +27,7 @@ public final class LineCasterFace {
             "one public constructor without parameters");
         checkMethods();
         checkFields(LineCaster.class);
+        checkConstants();
         for (Class<?> inside : LineCaster.class.getDeclaredClasses()) {
             checkInside(inside);
         }
@@ -55,6 +57,15 @@ public final class LineCasterFace {
             if (!Modifier.isPrivate(f.getModifiers())) seen.add(f.getName());
         }
         check(seen.equals(new TreeSet<>(Set.of(CONSTANTS))), "the open fields are the constants: " + seen);
+    }
+
+    private static void checkConstants() throws ReflectiveOperationException {
+        for (int c = 0; c < CONSTANTS.length; c++) {
+            Field f = LineCaster.class.getDeclaredField(CONSTANTS[c]);
+            int modifiers = f.getModifiers();
+            boolean open = Modifier.isPublic(modifiers) && Modifier.isStatic(modifiers) && f.getType() == int.class;
+            check(open && f.getInt(null) == VALUES[c], CONSTANTS[c] + " is a public static int of " + VALUES[c]);
+        }
     }
 
     private static void checkInside(Class<?> inside) {

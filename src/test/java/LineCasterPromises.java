@@ -1,99 +1,43 @@
 /** For each promise of the document: ordinary inputs, the edges that it names, and wrong inputs. */
-public final class LineCasterPromises {
-    private static final int BAD = -1, NOT = -2, FULL = -3, NONE = -4, NULL = -11, CAST = -12, INDEX = -13, SIZE = -14;
-    private static final int MIN = Integer.MIN_VALUE, MAX = Integer.MAX_VALUE;
-    private static int wrong = 0;
-    private static int promise = 0;
-
-    private static void due(String call, long want, long got) {
-        if (got != want) {
-            wrong++;
-            System.out.println("promise " + promise + ": " + call + " answered " + got + ", due is " + want);
-        }
-    }
-
+public final class LineCasterPromises extends Checks {
     public static void main(String[] args) {
-        promise = 1; newObject();
-        promise = 2; letter();
-        promise = 3; place();
-        promise = 4; rails();
-        promise = 5; set();
-        promise = 6; falls();
-        promise = 7; astray();
-        promise = 8; order();
-        promise = 9; lost();
-        promise = 10; mould();
-        promise = 11; told();
-        promise = 12; wear();
-        promise = 13; home();
-        promise = 14; channel();
-        promise = 15; key();
-        promise = 16; band();
-        promise = 17; ticks(); lastTick();
-        promise = 18; line();
-        promise = 19; state();
-        promise = 20; thick();
-        promise = 21; cast(); castGoesHome(); castSettlesWhere(); castJams(); castTies(); castAll(); castFull();
-        promise = 22; clear();
-        promise = 23; slug();
-        promise = 24; count();
-        promise = 25; comes();
-        promise = 26; turned();
-        promise = 27; waits();
-        promise = 28; gap();
-        promise = 29; type();
-        promise = 30; plays(); playsStops(); playsFull();
-        promise = 31; risk();
-        promise = 32; better();
-        promise = 33; sheet();
-        promise = 34; drop();
-        promise = 35; item();
-        promise = 36; copy();
-        System.out.println(wrong == 0 ? "all promises hold" : wrong + " answers are not as due");
-        if (wrong != 0) System.exit(1);
-    }
-
-    // ---- helpers
-
-    private static LineCaster withMoulds(int... letters) {
-        LineCaster x = new LineCaster();
-        for (int letter : letters) x.mould(letter, 0);
-        return x;
-    }
-
-    /** A sheet with these items, and `lane`. */
-    private static void fill(LineCaster x, int sheet, int lane, int... items) {
-        due("sheet", items.length, x.sheet(sheet, lane, items.length));
-        for (int i = 0; i < items.length; i++) due("item", 1, x.item(sheet, lane, i, items[i]));
-    }
-
-    private static int write(LineCaster x, String text) {
-        int answer = 0;
-        for (int i = 0; i < text.length(); i++) answer = x.type(text.charAt(i), 1);
-        return answer;
-    }
-
-    private static void dueLine(LineCaster x, int... things) {
-        due("line(-1)", things.length, x.line(-1));
-        for (int i = 0; i < things.length; i++) due("line(" + i + ")", things[i], x.line(i));
-        due("line(" + things.length + ")", NONE, x.line(things.length));
-    }
-
-    private static void dueChannel(LineCaster x, int place, int... moulds) {
-        due("channel(" + place + ", -1)", moulds.length, x.channel(place, -1));
-        for (int i = 0; i < moulds.length; i++) {
-            due("channel(" + place + ", " + i + ")", moulds[i], x.channel(place, i));
-        }
-        due("channel(" + place + ", " + moulds.length + ")", NONE, x.channel(place, moulds.length));
-    }
-
-    private static void dueSlug(LineCaster x, int slug, String text) {
-        due("slug(" + slug + ", -1)", text.length(), x.slug(slug, -1));
-        for (int i = 0; i < text.length(); i++) due("slug(" + slug + ", " + i + ")", text.charAt(i), x.slug(slug, i));
-    }
-
-    private static void dueCounts(LineCaster x, int... counts) {
-        for (int what = 0; what < counts.length; what++) due("count(" + what + ")", counts[what], x.count(what));
+        under("promise 1"); newObject();
+        under("promise 2"); letter();
+        under("promise 3"); place();
+        under("promise 4"); rails();
+        under("promise 5"); set();
+        under("promise 6"); falls();
+        under("promise 7"); astray();
+        under("promise 8"); order();
+        under("promise 9"); lost();
+        under("promise 10"); mould();
+        under("promise 11"); told();
+        under("promise 12"); wear();
+        under("promise 13"); home();
+        under("promise 14"); channel();
+        under("promise 15"); key();
+        under("promise 16"); band();
+        under("promise 17"); ticks(); lastTick();
+        under("promise 18"); line();
+        under("promise 19"); state();
+        under("promise 20"); thick();
+        under("promise 21"); cast(); castGoesHome(); castSettlesWhere(); castJams(); castTies(); castAll(); castFull();
+        under("promise 22"); clear();
+        under("promise 23"); slug();
+        under("promise 24"); count();
+        under("promise 25"); comes();
+        under("promise 26"); turned();
+        under("promise 27"); waits();
+        under("promise 28"); gap();
+        under("promise 29"); type();
+        under("promise 30"); plays(); playsStops(); playsFull();
+        under("promise 31"); risk();
+        under("promise 32"); better();
+        under("promise 33"); sheet();
+        under("promise 34"); drop();
+        under("promise 35"); item();
+        under("promise 36"); copy();
+        end("all promises hold");
     }
 
     // ---- 1 letters, the bar, moulds
@@ -283,10 +227,6 @@ public final class LineCasterPromises {
         LineCaster y = new LineCaster();
         y.letter(0, 1, 2);
         for (int i = 0; i < 12; i++) due("a and b alike: order(" + i + ")", NONE, y.order(i));
-    }
-
-    private static void dueOrder(LineCaster x, int... letters) {
-        for (int i = 0; i < 12; i++) due("order(" + i + ")", letters[i], x.order(i));
     }
 
     private static void lost() {
@@ -1248,10 +1188,5 @@ public final class LineCasterPromises {
             due("to " + bad, BAD, x.copy(3, 0, bad, 0, 1));
         }
         dueItems(x, 1, 1, 1, 2, 3, 4, 5, 6, 7, 8, 9, 10, 11, 12);
-    }
-
-    private static void dueItems(LineCaster x, int sheet, int lane, int... items) {
-        due("rails of the items", 12, x.rails(sheet, lane, 0));
-        for (int p = 0; p < 12; p++) due("item " + p, items[p], x.place(p, 0, 0));
     }
 }
