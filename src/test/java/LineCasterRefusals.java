@@ -48,7 +48,7 @@ public final class LineCasterRefusals extends Checks {
         trySheets();
         inState("new", x -> { }, "", TRIES);
         inState("busy", LineCasterRefusals::busy, "ab z", TRIES);
-        inState("full", LineCasterRefusals::full, blanks(60), TRIES);
+        inState("full", LineCasterRefusals::full, blanks(58), TRIES);
         inState("24 moulds", LineCasterRefusals::line24, "a", only(10, 13, 15, 16));
         inState("forty slugs", LineCasterRefusals::fortySlugs, "l", only(21));
         inState("late", LineCasterRefusals::late, "  ", only(17, 30));
