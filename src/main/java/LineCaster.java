@@ -13,6 +13,7 @@ public final class LineCaster {
     private static final int ALL_TEETH = 127;
     private static final int WIDEST = 40;
     private static final int FARTHEST_REACH = 20;
+    private static final int MORE_THAN_ALL_RISKS = LETTERS * TOOTH_PLACES + 1;
 
     private static final int MOST_MOULDS = 60;
     private static final int CHANNEL_HOLDS = 8;
@@ -780,11 +781,11 @@ public final class LineCaster {
             int teethBefore = teeth[letter];
             int railsBefore = rails[letter];
             int best = NONE;
-            int fewest = Integer.MAX_VALUE;
+            int fewest = MORE_THAN_ALL_RISKS;
             for (int tried = 1; tried <= ALL_TEETH; tried++) {
                 teeth[letter] = tried;
                 rails[letter] = ALL_TEETH & ~tried;
-                int risks = firstAstray() == NONE ? allAtRisk() : Integer.MAX_VALUE;
+                int risks = firstAstray() == NONE ? allAtRisk() : MORE_THAN_ALL_RISKS;
                 if (risks < fewest) {
                     fewest = risks;
                     best = tried;
